@@ -221,7 +221,7 @@ public final class HingeCards {
     }
 
     private static boolean isBit(int bits, int n) {
-        return isWithin(n, 0, 31) && (bits >>> n & 1) == 1;
+        return isWithin(n, 0, 31) && ((bits >>> n) & 1) == 1;
     }
 
     private static int acrossOf(int step, int p, int q) {
@@ -360,29 +360,26 @@ public final class HingeCards {
             int line = faceLine[f];
             int start = faceStart[f];
             int end = start + faceLength[f];
+            int across = along == ALONG_P ? ALONG_Q : ALONG_P;
             addBits(stretches, along, line, bitsBetween(start, end - 1));
             addBits(places, along, line, bitsBetween(start, end));
-            for (int n = start; n <= end; n++) addBits(places, ALONG_Q - along, n, bitsBetween(line, line));
-        }
-
-        static boolean isLine(int along, int line) {
-            return (along == ALONG_P || along == ALONG_Q) && line >= 0 && line < WIDTH;
+            for (int n = start; n <= end; n++) addBits(places, across, n, bitsBetween(line, line));
         }
 
         static void addBits(int[] rows, int along, int line, int bits) {
-            if (!isLine(along, line)) return;
-            int i = along * WIDTH + line;
+            if (line < 0 || line >= WIDTH) return;
+            int i = along == ALONG_P ? line : WIDTH + line;
             if (i < rows.length) rows[i] |= bits;
         }
 
         static int bitsOf(int[] rows, int along, int line) {
-            if (!isLine(along, line)) return 0;
-            int i = along * WIDTH + line;
+            if (line < 0 || line >= WIDTH) return 0;
+            int i = along == ALONG_P ? line : WIDTH + line;
             return i < rows.length ? rows[i] : 0;
         }
 
         static int bitsBetween(int low, int high) {
-            return (1 << high + 1) - (1 << low);
+            return (1 << (high + 1)) - (1 << low);
         }
 
         int reach(int k, int along) {
@@ -400,28 +397,21 @@ public final class HingeCards {
 
         int reasonAgainst(int k, int a, int b) {
             if (a > reach(k, ALONG_P) || b > reach(k, ALONG_Q)) return 1;
-            if (sticksOut(k, a, b)) return 2;
-            return hits(k, a, b) ? 3 : 0;
-        }
-
-        /** For a BOX within REACH: whether it can be. */
-        boolean isFree(int k, int a, int b) {
-            return !sticksOut(k, a, b) && !hits(k, a, b);
-        }
-
-        boolean sticksOut(int k, int a, int b) {
-            if (!hasCorner(k)) return true;
-            return cornerP[k] + cornerU[k] * a + cornerQ[k] + cornerV[k] * b > pageLength;
+            return reasonWithinReach(k, a, b);
         }
 
         /** To be asked only within REACH: only there all PLACES of the BOX are on the card. */
-        boolean hits(int k, int a, int b) {
-            if (!hasCorner(k)) return true;
+        int reasonWithinReach(int k, int a, int b) {
+            if (!hasCorner(k)) return 1;
             int p = cornerP[k];
             int q = cornerQ[k];
             int u = cornerU[k];
             int v = cornerV[k];
-            return isAnyTaken(ALONG_Q, p + u * a, q, v, b) || isAnyTaken(ALONG_P, q + v * b, p, u, a);
+            int farP = p + u * a;
+            int farQ = q + v * b;
+            if (farP + farQ > pageLength) return 2;
+            boolean isHit = isAnyTaken(ALONG_Q, farP, q, v, b) || isAnyTaken(ALONG_P, farQ, p, u, a);
+            return isHit ? 3 : 0;
         }
 
         /** Of the n PLACES of a line that come behind one, which itself is left out. */
@@ -526,7 +516,7 @@ public final class HingeCards {
                 int reachQ = card.reach(k, ALONG_Q);
                 for (int a = 1; a <= reachP; a++) {
                     for (int b = 1; b <= reachQ; b++) {
-                        if (card.isFree(k, a, b)) meet(k, a, b);
+                        if (card.reasonWithinReach(k, a, b) == 0) meet(k, a, b);
                     }
                 }
             }
@@ -551,7 +541,8 @@ public final class HingeCards {
                 int reachQ = card.reach(k, ALONG_Q);
                 for (int a = 1; a <= reachP; a++) {
                     for (int b = 1; b <= reachQ; b++) {
-                        if (card.isFree(k, a, b)) best = Math.max(best, a * b + sizeBehind(card, k, a, b));
+                        if (card.reasonWithinReach(k, a, b) != 0) continue;
+                        best = Math.max(best, a * b + sizeBehind(card, k, a, b));
                     }
                 }
             }

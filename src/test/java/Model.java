@@ -97,7 +97,8 @@ final class Model {
         List<int[]> all = new ArrayList<>();
         if (boxes.size() == 6) return all;
         for (int k = 0; k < corners.size(); k++) {
-            for (int a = 1; a <= 12; a++) for (int b = 1; b <= 12; b++) {
+            int reachP = reach(corners.get(k), true), reachQ = reach(corners.get(k), false);
+            for (int a = 1; a <= reachP; a++) for (int b = 1; b <= reachQ; b++) {
                 if (reason(k, a, b) == 0) all.add(new int[] {k, a, b});
             }
         }

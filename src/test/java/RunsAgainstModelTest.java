@@ -31,6 +31,11 @@ public final class RunsAgainstModelTest {
             for (int offs = seed % 4; offs > 0; offs--) run.off();
             run.lookAtAll();
         }
+        for (int seed = 2001; seed <= 2200; seed++) {
+            RunsAgainstModelTest run = new RunsAgainstModelTest(due, seed);
+            run.size(4 + seed % 9);
+            for (int boxes = 0; boxes <= 6; boxes++) run.lookAtWhatCanBe(boxes);
+        }
         due.end("RunsAgainstModelTest");
     }
 
@@ -89,6 +94,15 @@ public final class RunsAgainstModelTest {
                 for (int what = -1; what <= 3; what++) above(step, across, what);
             }
         }
+    }
+
+    private void lookAtWhatCanBe(int boxes) {
+        for (int tries = 0; tries < 40 && model.count(0) < boxes; tries++) put();
+        ways();
+        for (int what = 0; what <= 3; what++) greatest(what);
+        two();
+        count(0);
+        count(5);
     }
 
     private void size(int v) {
