@@ -355,7 +355,7 @@ public final class HingeCards {
         }
 
         void draw(int f) {
-            if (!hasFace(f)) return;
+            if (f < 0 || f >= MOST_FACES) return;
             int along = faceAlong[f];
             int line = faceLine[f];
             int start = faceStart[f];
