@@ -14,6 +14,10 @@ final class Due {
         is(what, isSo ? 1 : 0, 1);
     }
 
+    int asked() {
+        return asked;
+    }
+
     void end(String name) {
         System.out.println(name + ": " + asked + " answers looked at, " + wrong + " not as due");
         if (wrong != 0 || asked == 0) System.exit(1);
