@@ -8,6 +8,13 @@ import java.util.function.Supplier;
 public final class BoundariesOfPromisesTest {
     private static final int UNKNOWN = -1, OUTSIDE = -2, STATE = -3, FULL = -4, NO = -5, NONE = -6;
     private static final int LOW = Cards.LOW, HIGH = Cards.HIGH;
+    /** 'What it is' and 'Terms' are told by BoundariesOfTermsTest, 'The public face' by LanguageTest. */
+    private static final List<String> PARTS = List.of("## What it is", "## The public face", "## Terms",
+            "## Promise 1: A new object", "## Promise 2: size", "## Promise 3: put", "## Promise 4: off",
+            "## Promise 5: why", "## Promise 6: corner", "## Promise 7: face", "## Promise 8: on", "## Promise 9: ways",
+            "## Promise 10: greatest", "## Promise 11: two", "## Promise 12: view", "## Promise 13: above",
+            "## Promise 14: apart", "## Promise 15: image", "## Promise 16: restore", "## Promise 17: count",
+            "## Not promised");
     private static final Due DUE = new Due();
 
     private BoundariesOfPromisesTest() {
@@ -20,7 +27,9 @@ public final class BoundariesOfPromisesTest {
         whatCanBe(document);
         opened(document);
         images(document);
+        notPromised(document);
         document.end();
+        document.partsAre(PARTS);
         numbersAtTheirEnds();
         DUE.end("BoundariesOfPromisesTest");
     }
@@ -545,6 +554,17 @@ public final class BoundariesOfPromisesTest {
         Asked x = fresh(8);
         for (int what : new int[] {LOW, -1, 7, HIGH}) x.count(what).is(OUTSIDE);
         x.count(0).is(0).count(6).is(0);
+    }
+
+    // ---- what is not promised
+
+    private static void notPromised(Sentences document) {
+        document.part("## Not promised");
+        document.tell("How the state is held inside the object is free, as are the speed of each call, the text of toString"
+                + " and the behaviour of equals and hashCode.");
+        document.tell("Use of one object from several threads at once is not promised to be safe.");
+        document.tell("Nothing is promised beyond the answers and state changes described above, and nothing about an"
+                + " object after its 512th call.");
     }
 
     // ---- every number of every call, as small and as great as an int can be, and near it

@@ -1,4 +1,6 @@
+import java.io.IOException;
 import java.lang.reflect.Constructor;
+import java.lang.reflect.Executable;
 import java.lang.reflect.Field;
 import java.lang.reflect.Method;
 import java.lang.reflect.Modifier;
@@ -12,6 +14,7 @@ import java.util.regex.Pattern;
 
 /** The public face of the document, and those rules of LANGUAGE.md that can be read from the source and the class. */
 public final class LanguageTest {
+    private static final Path DOCUMENT = Path.of("../shared/DOC.md");
     private static final String[] FACE = {
         "size 1", "put 3", "off 0", "why 3", "corner 2", "face 2", "on 2", "ways 0", "greatest 1", "two 0",
         "view 2", "above 3", "apart 3", "image 1", "restore 1", "count 1"};
@@ -22,6 +25,7 @@ public final class LanguageTest {
     public static void main(String[] args) throws Exception {
         Due due = new Due();
         face(due);
+        faceOfTheDocument(due);
         constants(due);
         insideClasses(due);
         words(due);
@@ -45,6 +49,27 @@ public final class LanguageTest {
         Constructor<?>[] made = HingeCards.class.getDeclaredConstructors();
         due.holds("one public constructor", made.length == 1 && made[0].getParameterCount() == 0
                 && Modifier.isPublic(made[0].getModifiers()));
+    }
+
+    /** Line by line, as the document writes it; names of parameters are held against it by ReadmeTest. */
+    private static void faceOfTheDocument(Due due) throws IOException {
+        if (!Files.isReadable(DOCUMENT)) return;
+        TreeSet<String> told = new TreeSet<>();
+        for (String line : Files.readString(DOCUMENT).split("```java\n|```\n")[1].split("\n")) {
+            boolean isMethod = line.startsWith("    public") && !line.contains(" static ");
+            if (isMethod) told.add(line.strip().replaceAll("int \\w+(?=[,)])", "int").replaceAll("[; ]", ""));
+        }
+        TreeSet<String> has = new TreeSet<>();
+        Executable[] made = HingeCards.class.getConstructors();
+        for (Executable e : made) has.add(written(e));
+        for (Executable e : HingeCards.class.getDeclaredMethods()) {
+            if (!Modifier.isPrivate(e.getModifiers())) has.add(written(e));
+        }
+        due.holds("the document's face " + told + ", the class's " + has, told.equals(has));
+    }
+
+    private static String written(Executable e) {
+        return e.toString().replaceAll("HingeCards\\.", "").replaceAll(" ", "");
     }
 
     private static void constants(Due due) throws IllegalAccessException {

@@ -41,6 +41,13 @@ final class Sentences {
         left = plain(String.join(" ", text));
     }
 
+    /** No part of the document may be left out, from its first to its last. */
+    void partsAre(List<String> headings) {
+        if (lines == null) return;
+        List<String> has = lines.stream().filter(line -> line.startsWith("## ")).toList();
+        due.holds("the document has the parts " + has, has.equals(headings));
+    }
+
     /** A sentence that names a boundary case. */
     void names(String sentence, Runnable test) {
         tell(sentence);
